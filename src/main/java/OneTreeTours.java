@@ -247,7 +247,7 @@ public final class OneTreeTours {
     /** One ended line of the text, parted into its words. */
     private static final class Line {
         /** Below every number that four digits can tell, so each check of a range refuses it. */
-        static final int NO_NUMBER = -10000;
+        private static final int NO_NUMBER = -10000;
 
         private static final int MOST_DIGITS = 4;
 

@@ -31,7 +31,9 @@ public final class LanguageTest {
             Check.due("methods named " + name, 1, count(code, method));
         }
         Check.due("classes, at most twelve", true, count(code, "\\bclass\\b") <= 12);
-        Check.due("rows and objects made outside constructors", 0, count(code, "(?m)^ +return new\\b"));
+        int rows = count(code, "(?m)^ +(private )?final \\w+\\[\\] \\w+ = new \\w+\\[[A-Z_ */2]+\\];$");
+        int parts = count(code, "(?m)^ +\\w+ = new [A-Z]\\w+\\(\\w*\\);$");
+        Check.due("what is made beside fields and constructors", 0, count(code, "\\bnew\\b") - rows - parts);
         shortMethods(code);
         Check.finish();
     }
