@@ -18,6 +18,14 @@ final class Check {
         due(call, want ? 1 : 0, got ? 1 : 0);
     }
 
+    static void same(String what, String want, String got) {
+        looked++;
+        if (!got.equals(want)) {
+            wrong++;
+            System.out.println(what + " was changed\n  from " + want + "\n  to   " + got);
+        }
+    }
+
     static int wrong() {
         return wrong;
     }

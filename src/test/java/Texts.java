@@ -50,6 +50,23 @@ final class Texts {
                 + "EOF\n";
     }
 
+    /** The text behind a comment that fills it up to so many characters. */
+    static String filled(String text, int length) {
+        int blank = length - text.length() - "COMMENT:\n".length();
+        return "COMMENT:" + "x".repeat(blank) + "\n" + text;
+    }
+
+    /** How many characters can still be written; it writes them. */
+    static int room(OneTreeTours x) {
+        int room = 0;
+        for (String more = " ".repeat(8); !more.isEmpty(); more = more.substring(1)) {
+            while (room <= 480 && x.write(pack(more))) {
+                room += more.length();
+            }
+        }
+        return room;
+    }
+
     /** A text for n cities that all lie as far apart from one another. */
     static String equal(int n, int apart) {
         StringBuilder data = new StringBuilder();
