@@ -114,8 +114,8 @@ public final class BoundaryCaseTest {
             x.add(1, 0);
         }
         Check.due("the tenth", 10, x.add(0, 1));
-        Check.due("the eleventh", NONE, x.add(0, 0));
-        Check.due("the eleventh again", NONE, x.add(2, 1));
+        Check.due("the eleventh", NONE, x.add(2, 1));
+        Check.due("the eleventh again", NONE, x.add(0, 0));
         // The document names BAD first, so a set that is wrong is BAD in a full list too.
         Check.due("a wrong one", BAD, x.add(64, 0));
         Check.due("a wrong one", BAD, x.add(1, 1));
