@@ -18,6 +18,14 @@ final class Check {
         due(call, want ? 1 : 0, got ? 1 : 0);
     }
 
+    static void due(String call, String want, String got) {
+        looked++;
+        if (!got.equals(want)) {
+            wrong++;
+            System.out.println(call + " answered " + got + ", due is " + want);
+        }
+    }
+
     static void same(String what, String want, String got) {
         looked++;
         if (!got.equals(want)) {
